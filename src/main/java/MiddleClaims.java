@@ -481,7 +481,7 @@ public final class MiddleClaims {
 
     /** To be called ahead of each change that is an act, when nothing can go wrong any more. */
     private void beginAct() {
-        history.record(clauses);
+        history.remember(clauses);
         proofStands = false;
     }
 
@@ -697,7 +697,7 @@ public final class MiddleClaims {
             return size;
         }
 
-        void record(Clauses state) {
+        void remember(Clauses state) {
             if (size >= states.length && states.length > 0) {
                 dropOldest();
             }

@@ -1,6 +1,7 @@
 /**
  * Long runs of calls on the program and on the plain model, which must answer the same. The calls
- * come from a row of numbers that is the same each time.
+ * come from a row of numbers that is the same each time. (What is asked at a run's end goes beyond the
+ * 512 calls that the document binds: the program answers the same there.)
  */
 public final class ModelRunsTest {
     private static final int RUNS = 600;
