@@ -1,4 +1,4 @@
-/** What the tests share: a row of characters to type, and a count of the calls answered wrongly. */
+/** What the tests share: objects with clauses, and a count of the calls answered wrongly. */
 final class Checks {
     private int wrong = 0;
     private int all = 0;
@@ -23,6 +23,15 @@ final class Checks {
         type(x, characters);
         x.addAll();
         x.clearText();
+        return x;
+    }
+
+    /** A new object with the clauses (signs, opposites), one by one on the sides 0 and 1. */
+    static MiddleClaims of(int[][] rows) {
+        MiddleClaims x = new MiddleClaims();
+        for (int clause = 0; clause < rows.length; clause++) {
+            x.add(clause % 2, rows[clause][0], rows[clause][1]);
+        }
         return x;
     }
 

@@ -309,7 +309,7 @@ public final class ClausesTest {
         due("shrink() without a clash", x.shrink(), -4);
         due("no act", x.count(9), 1);
         due("the clauses stay", x.count(0), 3);
-        x = ProofTest.of(ProofTest.EMPTY_CLAUSE_WOULD_BE_401ST);
+        x = Checks.of(ProofRows.EMPTY_CLAUSE_WOULD_BE_401ST);
         due("shrink() without a known proof", x.shrink(), -4);
         due("they clash", x.count(2), 1);
     }

@@ -1,11 +1,12 @@
 /**
  * Long runs of calls on the program and on the plain model, which must answer the same. The calls
- * come from a row of numbers that is the same each time. (What is asked at a run's end goes beyond the
- * 512 calls that the document binds: the program answers the same there.)
+ * come from a row of numbers that is the same each time. A run ends with the 512th call.
  */
 public final class ModelRunsTest {
     private static final int RUNS = 600;
     private static final int CALLS = 512;
+    /** How many of them are acts and looks by chance; with the others all is looked at in a row. */
+    private static final int CALLS_BY_CHANCE = 300;
     private static final String[] TEXTS = {
         "a/-a", "a,-ab/-b", "ab,-a/-bc,-c", "abc,-abc,a-b,-a-bc/-cd,-c-d", "ab,a-b,-ab,-a-b",
         "abcdef", "abcdef,-a,-b,-c/-d,-e,-f", "a,b,c,d,e,f,a,b,c,d,e,f", "ad,-ae,bd,-be/-d,-ef,-e-f",
@@ -17,6 +18,7 @@ public final class ModelRunsTest {
     private MiddleClaims x;
     private PlainModel model;
     private String told;
+    private int calls;
 
     public static void main(String[] args) {
         ModelRunsTest test = new ModelRunsTest();
@@ -42,7 +44,8 @@ public final class ModelRunsTest {
     }
 
     private void due(String call, int got, int want) {
-        checks.due(told + call, got, want);
+        calls++;
+        checks.due(told + ", call " + calls + ": " + call, got, want);
     }
 
     private void run(int run) {
@@ -50,9 +53,9 @@ public final class ModelRunsTest {
         model = new PlainModel();
         int signs = 1 + next(6);
         int longest = 1 + next(signs);
-        int calls = 0;
-        while (calls < CALLS) {
-            told = "run " + run + ", call " + calls + ": ";
+        calls = 0;
+        told = "run " + run;
+        while (calls < CALLS_BY_CHANCE) {
             switch (next(4)) {
                 case 0:
                     addSome(signs, longest);
@@ -63,7 +66,6 @@ public final class ModelRunsTest {
                 default:
                     look();
             }
-            calls += 3;
         }
         lookAtAll();
     }
@@ -189,8 +191,8 @@ public final class ModelRunsTest {
 
     private void lookAtClaims() {
         due("compare()", x.compare(), model.compare());
-        int low = new int[] {0, -1, x.middle(0, 0), x.middle(1, 0), x.outermost(true, 0)}[next(5)];
-        int high = new int[] {0, -1, x.middle(0, 1), x.middle(1, 1), x.outermost(true, 1)}[next(5)];
+        int low = new int[] {0, -1, model.middle(0, 0), model.middle(1, 0), model.outermost(true, 0)}[next(5)];
+        int high = new int[] {0, -1, model.middle(0, 1), model.middle(1, 1), model.outermost(true, 1)}[next(5)];
         if (next(4) == 0) {
             low ^= 1 << next(32);
         }
@@ -198,20 +200,8 @@ public final class ModelRunsTest {
     }
 
     private void lookAtAll() {
-        told = told + "then ";
         for (int what = -1; what <= 11; what++) {
             due("count(" + what + ")", x.count(what), model.count(what));
-        }
-        for (int clause = 0; clause < 25; clause++) {
-            for (int what = 0; what <= 5; what++) {
-                due("clause(" + clause + ", " + what + ")", x.clause(clause, what), model.clause(clause, what));
-            }
-        }
-        int steps = Math.min(400, model.count(3));
-        for (int step = 0; step <= steps; step++) {
-            for (int what = 0; what <= 5; what++) {
-                due("step(" + step + ", " + what + ")", x.step(step, what), model.step(step, what));
-            }
         }
         for (int half = 0; half < 2; half++) {
             due("middle(0, " + half + ")", x.middle(0, half), model.middle(0, half));
@@ -220,5 +210,21 @@ public final class ModelRunsTest {
             due("outermost(true, " + half + ")", x.outermost(true, half), model.outermost(true, half));
         }
         due("compare()", x.compare(), model.compare());
+        int steps = Math.min(400, model.count(3)) + 1;
+        // From another step in each run on, so that all steps come up in one run or another.
+        for (int from = next(steps), at = 0; at < steps && calls < CALLS - 6; at++) {
+            int step = (from + at) % steps;
+            for (int what = 0; what < 6; what++) {
+                due("step(" + step + ", " + what + ")", x.step(step, what), model.step(step, what));
+            }
+        }
+        for (int clause = next(8); clause < 25 && calls < CALLS - 5; clause++) {
+            for (int what = 0; what < 5; what++) {
+                due("clause(" + clause + ", " + what + ")", x.clause(clause, what), model.clause(clause, what));
+            }
+        }
+        while (calls < CALLS) {
+            due("undo()", x.undo(), model.undo());
+        }
     }
 }

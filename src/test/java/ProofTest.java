@@ -1,33 +1,9 @@
 /** Promises 15, 16, 17, 20 and what else is told of the proof. */
 public final class ProofTest {
-    /** Rows of signs and opposites of clauses, found by trying. */
-    static final int[][] ENDS_WITH_400_STEPS = {
-        {16, 14}, {57, 4}, {0, 19}, {18, 40}, {55, 0}, {41, 20}, {1, 34}, {0, 18}, {36, 0}, {34, 8},
-        {0, 48}, {34, 9}, {5, 16}, {4, 32}, {0, 39}, {16, 34}};
-    static final int[][] WOULD_GO_ON = {
-        {24, 0}, {0, 17}, {0, 46}, {0, 29}, {58, 0}, {2, 8}, {1, 16}, {2, 20}, {3, 4}, {20, 32},
-        {20, 1}, {0, 33}, {0, 5}, {54, 0}, {0, 35}, {8, 37}, {16, 37}};
-    static final int[][] EMPTY_CLAUSE_IS_400TH = {
-        {32, 16}, {1, 8}, {0, 9}, {32, 18}, {4, 2}, {32, 16}, {1, 36}, {0, 18}, {44, 0}, {0, 48},
-        {2, 1}, {0, 18}, {32, 3}, {8, 3}, {8, 20}, {20, 0}, {16, 1}, {16, 40}, {0, 11}, {9, 0},
-        {32, 8}};
-    static final int[][] EMPTY_CLAUSE_WOULD_BE_401ST = {
-        {16, 2}, {8, 33}, {0, 20}, {2, 12}, {10, 0}, {4, 8}, {5, 0}, {19, 32}, {36, 1}, {10, 1},
-        {11, 32}, {6, 9}, {2, 8}, {4, 1}, {24, 6}, {4, 49}, {3, 32}};
-
     private static final Checks CHECKS = new Checks();
 
     private static void due(String call, long got, long want) {
         CHECKS.due(call, got, want);
-    }
-
-    /** The clauses, one by one on the sides 0 and 1. */
-    static MiddleClaims of(int[][] clauses) {
-        MiddleClaims x = new MiddleClaims();
-        for (int clause = 0; clause < clauses.length; clause++) {
-            x.add(clause % 2, clauses[clause][0], clauses[clause][1]);
-        }
-        return x;
     }
 
     public static void main(String[] args) {
@@ -209,7 +185,8 @@ public final class ProofTest {
 
     private static void claimsOfClauses() {
         // Shared are a and c: of the clauses of the side 0 those literals count by the manner 1.
-        MiddleClaims x = Checks.with("a-bc,b-c,-a,-c/-ac,-a-d,a");
+        String text = "a-bc,b-c,-a,-c/-ac,-a-d,a";
+        MiddleClaims x = Checks.with(text);
         due("shared", x.count(1), 5);
         due("the empty clause", x.count(5), 1);
         duePartial(x, 0, 0, 0L);
@@ -218,6 +195,7 @@ public final class ProofTest {
         duePartial(x, 1, 1, ~C);
         duePartial(x, 2, 0, 0L);
         duePartial(x, 2, 1, ~A);
+        x = Checks.with(text);
         duePartial(x, 4, 0, -1L);
         duePartial(x, 4, 1, -1L);
         duePartial(x, 5, 0, -1L);
@@ -246,7 +224,7 @@ public final class ProofTest {
         due("they clash still", x.compare(), 0);
         x.remove(1);
         due("compare() without a clash", x.compare(), -4);
-        x = of(EMPTY_CLAUSE_WOULD_BE_401ST);
+        x = Checks.of(ProofRows.EMPTY_CLAUSE_WOULD_BE_401ST);
         due("compare() without a known proof", x.compare(), -4);
     }
 
@@ -265,7 +243,7 @@ public final class ProofTest {
         x.remove(1);
         due("without a clash", x.partial(0, 0, 0), -4);
         due("that first", x.partial(9, 2, 64), -4);
-        x = of(EMPTY_CLAUSE_WOULD_BE_401ST);
+        x = Checks.of(ProofRows.EMPTY_CLAUSE_WOULD_BE_401ST);
         due("without a known proof", x.partial(0, 0, 0), -4);
         due("without a known proof", x.partial(-1, 0, 0), -4);
     }
@@ -279,7 +257,7 @@ public final class ProofTest {
         x = Checks.with("a/b");
         due("without a clash", x.middle(0, 0), 0);
         due("without a clash", x.middle(1, 1), 0);
-        x = of(EMPTY_CLAUSE_WOULD_BE_401ST);
+        x = Checks.of(ProofRows.EMPTY_CLAUSE_WOULD_BE_401ST);
         for (int half = 0; half < 2; half++) {
             due("without a known proof", x.middle(0, half), 0);
             due("without a known proof", x.middle(1, half), 0);
@@ -287,7 +265,7 @@ public final class ProofTest {
     }
 
     private static void proofOf400Steps() {
-        MiddleClaims x = of(ENDS_WITH_400_STEPS);
+        MiddleClaims x = Checks.of(ProofRows.ENDS_WITH_400_STEPS);
         due("count(3)", x.count(3), 400);
         due("count(5)", x.count(5), 0);
         due("step(399, 5)", x.step(399, 5), 0);
@@ -297,7 +275,7 @@ public final class ProofTest {
     }
 
     private static void proofThatWouldGoOn() {
-        MiddleClaims x = of(WOULD_GO_ON);
+        MiddleClaims x = Checks.of(ProofRows.WOULD_END_WITH_401_STEPS);
         due("count(3)", x.count(3), 401);
         due("count(4)", x.count(4), 0);
         due("count(5)", x.count(5), 0);
@@ -317,14 +295,14 @@ public final class ProofTest {
     }
 
     private static void emptyClauseAtTheEdge() {
-        MiddleClaims x = of(EMPTY_CLAUSE_IS_400TH);
+        MiddleClaims x = Checks.of(ProofRows.EMPTY_CLAUSE_IS_400TH);
         due("the 400th: count(3)", x.count(3), 400);
         due("the 400th: count(5)", x.count(5), 1);
         due("the 400th: step(399, 0)", x.step(399, 0), 0);
         due("the 400th: step(399, 1)", x.step(399, 1), 0);
         due("the 400th: step(399, 5)", x.step(399, 5), 1);
         due("the 400th: partial(399, 0, 0) is told", x.partial(399, 0, 0) >= 0 ? 1 : 0, 1);
-        x = of(EMPTY_CLAUSE_WOULD_BE_401ST);
+        x = Checks.of(ProofRows.EMPTY_CLAUSE_WOULD_BE_401ST);
         due("the 401st: count(2)", x.count(2), 1);
         due("the 401st: count(3)", x.count(3), 401);
         due("the 401st: count(4)", x.count(4), 0);

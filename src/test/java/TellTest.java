@@ -45,7 +45,7 @@ public final class TellTest {
         }
         x.remove(4);
         due("without a clash", x.clause(1, 4), 0);
-        x = ProofTest.of(ProofTest.EMPTY_CLAUSE_WOULD_BE_401ST);
+        x = Checks.of(ProofRows.EMPTY_CLAUSE_WOULD_BE_401ST);
         for (int clause = 0; clause < x.count(0); clause++) {
             due("the proof is not known: clause(" + clause + ", 4)", x.clause(clause, 4), 0);
         }
@@ -108,7 +108,7 @@ public final class TellTest {
         x = Checks.with("a/b");
         due("no clash", x.outermost(false, 0), 0);
         due("no clash, the weakest one", x.outermost(true, 0), 0);
-        x = ProofTest.of(ProofTest.EMPTY_CLAUSE_WOULD_BE_401ST);
+        x = Checks.of(ProofRows.EMPTY_CLAUSE_WOULD_BE_401ST);
         due("they clash without a known proof", x.count(2), 1);
         due("as its model tells", x.test(x.outermost(true, 0), x.outermost(true, 1)), 0);
         due("as its model tells", x.test(x.outermost(false, 0), x.outermost(false, 1)), 0);
