@@ -162,6 +162,8 @@ public final class EdgesOfClausesTest extends EdgeCases {
         });
         refused("Promise 2, add: the 25th to the side 0 is FULL", Setups::full, x -> x.add(0, 1, 0), FULL);
         refused("Promise 2, add: the 25th to the side 1 is FULL", Setups::full, x -> x.add(1, 0, 63), FULL);
+        refused("Promise 2, add: the 25th is FULL, though there is room for states and characters",
+            Setups::noRoom, x -> x.add(0, 1, 2), FULL);
         refused("Promise 2, add: the 25th is FULL also if it is there already",
             Setups::full, x -> x.add(0, x.clause(2, 1), x.clause(2, 2)), FULL);
         named("Promise 2, add: the room is for both sides together", () -> {
@@ -330,6 +332,16 @@ public final class EdgesOfClausesTest extends EdgeCases {
             dueClause(x, 2, 0, 0, 1);
             due("count(0)", x.count(0), 3);
             due("all are needed then", x.shrink(), NONE);
+        });
+        named("Promise 7, shrink: the first and the last one go, if they are not needed", () -> {
+            MiddleClaims x = Checks.with("c,a/d,-a,e");
+            due("shrink()", x.shrink(), 2);
+            dueClause(x, 0, 0, 1, 0);
+            dueClause(x, 1, 1, 0, 1);
+            x = Checks.with("c,d,e/b,a,-a");
+            due("shrink() of all ahead", x.shrink(), 2);
+            dueClause(x, 0, 1, 1, 0);
+            dueClause(x, 1, 1, 0, 1);
         });
         named("Promise 7, shrink: of the same clauses only the one that is a parent is left", () -> {
             MiddleClaims x = Checks.with("-a/a,a,a");

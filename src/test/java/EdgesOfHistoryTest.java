@@ -244,9 +244,9 @@ public final class EdgesOfHistoryTest extends EdgeCases {
 
     private void restore() {
         refused("Promise 12, restore: NONE in a new object", Setups::fresh, MiddleClaims::restore, NONE);
-        refused("Promise 12, restore: NONE if nothing was kept", Setups::allNeeded, MiddleClaims::restore, NONE);
+        refused("Promise 12, restore: NONE if nothing was kept", Setups::neverKept, MiddleClaims::restore, NONE);
         refused("Promise 12, restore: NONE without clauses, if nothing was kept",
-            Setups::emptied, MiddleClaims::restore, NONE);
+            Setups::emptiedNeverKept, MiddleClaims::restore, NONE);
         named("Promise 12, restore: a snapshot of no clauses is one", () -> {
             MiddleClaims x = Setups.open();
             due("restore()", x.restore(), 0);

@@ -159,6 +159,16 @@ public final class EdgesOfProofTest extends EdgeCases {
             dueStep(x, 4, 2, 0, 0, 1, 0, 0);
             due("steps", x.count(3), 5);
         });
+        named("THE PROOF: a resolvent that only has more literals than a step, or fewer, is a new step", () -> {
+            MiddleClaims x = Checks.with("b,ab,-ac");
+            dueStep(x, 3, 6, 0, 1, 2, 0, 0);
+            due("steps", x.count(3), 4);
+            x = Checks.with("bcd,ab,-ac");
+            dueStep(x, 3, 6, 0, 1, 2, 0, 0);
+            due("steps", x.count(3), 4);
+            x = Checks.with("bc,ab,-ac");
+            due("none if it is the same", x.count(3), 3);
+        });
         named("THE PROOF: the same clauses are steps each, but their resolvents come once", () -> {
             MiddleClaims x = Checks.with("ab,ab/-a,-a");
             due("steps", x.count(3), 5);
@@ -481,22 +491,22 @@ public final class EdgesOfProofTest extends EdgeCases {
     private void middleRefuses() {
         for (int manner : beyond(2)) {
             refused("Promise 17, middle: 0 for the manner " + manner,
-                () -> Checks.with("f/a,-a"), x -> x.middle(manner, 0), 0);
+                Setups::trueClaims, x -> x.middle(manner, 0), 0);
         }
         for (int half : beyond(2)) {
             refused("Promise 17, middle: 0 for the half " + half + " by the manner 0",
-                () -> Checks.with("f/a,-a"), x -> x.middle(0, half), 0);
+                Setups::trueClaims, x -> x.middle(0, half), 0);
             refused("Promise 17, middle: 0 for the half " + half + " by the manner 1",
-                () -> Checks.with("f/a,-a"), x -> x.middle(1, half), 0);
+                Setups::trueClaims, x -> x.middle(1, half), 0);
         }
         refused("Promise 17, middle: 0 if half and manner are out of range",
-            () -> Checks.with("f/a,-a"), x -> x.middle(2, 2), 0);
+            Setups::trueClaims, x -> x.middle(2, 2), 0);
         for (int which = 0; which < 4; which++) {
             int manner = which / 2;
             int half = which % 2;
             String call = "middle(" + manner + ", " + half + ")";
             refused("Promise 17, middle: 0 without the empty clause, " + call,
-                () -> Checks.with("f/a,b"), x -> x.middle(manner, half), 0);
+                Setups::noClaims, x -> x.middle(manner, half), 0);
             refused("Promise 17, middle: 0 in a new object, " + call,
                 Setups::fresh, x -> x.middle(manner, half), 0);
             refused("Promise 17, middle: 0 if the proof is not known, " + call,

@@ -151,16 +151,16 @@ public final class EdgesOfTellingTest extends EdgeCases {
         for (int half : beyond(2)) {
             for (boolean weakest : new boolean[] {false, true}) {
                 refused("Promise 18, outermost: 0 for the half " + half + " of a true claim, weakest " + weakest,
-                    () -> Checks.with("f/a,-a"), x -> x.outermost(weakest, half), 0);
+                    Setups::trueClaims, x -> x.outermost(weakest, half), 0);
             }
         }
         for (int half = 0; half < 2; half++) {
             int one = half;
             // But for the clash the strongest one would be true, the weakest one a.
             refused("Promise 18, outermost: 0 if the sides do not clash, half " + half + ", strongest",
-                () -> Checks.with("ab/-a"), x -> x.outermost(false, one), 0);
+                Setups::noClaims, x -> x.outermost(false, one), 0);
             refused("Promise 18, outermost: 0 if the sides do not clash, half " + half + ", weakest",
-                () -> Checks.with("ab/-a"), x -> x.outermost(true, one), 0);
+                Setups::noClaims, x -> x.outermost(true, one), 0);
         }
     }
 
@@ -330,6 +330,14 @@ public final class EdgesOfTellingTest extends EdgeCases {
                 due("a claim over a", test(x, claim), 0);
             }
             due("b", test(x, B), 3);
+        });
+        named("Promise 19, test: 3 for any world that is told apart from those that look alike", () -> {
+            MiddleClaims x = Checks.with("f,-f/f,-f");
+            for (int world = 0; world < 64; world++) {
+                due("the world " + world + " alone", test(x, 1L << world), 3);
+                due("all but the world " + world, test(x, ~(1L << world)), 3);
+                due("f but for the world " + world, test(x, F ^ 1L << world), 3);
+            }
         });
         named("Promise 19, test: also if the proof is not known", () -> {
             MiddleClaims x = Setups.unknown();

@@ -58,6 +58,10 @@ public final class EdgesOfTextsTest extends EdgeCases {
         refused("Promise 8, type: the 61st character is FULL", Setups::full, x -> x.type('a'), FULL);
         refused("Promise 8, type: the 61st character is FULL also if it is none of a text",
             Setups::fullWithFault, x -> x.type((char) 0), FULL);
+        for (char character : new char[] {'a', '-', ',', 0, 0xFFFF}) {
+            refused("Promise 8, type: the 61st character, " + (int) character + ", is FULL and not in the text",
+                () -> typed(LONGEST), x -> x.type(character), FULL);
+        }
         named("Promise 8, type: emptied, there is room for 60 again", () -> {
             MiddleClaims x = Setups.full();
             x.clearText();

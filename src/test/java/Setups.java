@@ -16,11 +16,49 @@ final class Setups {
         return x;
     }
 
-    /** Two clauses that clash, one state, no snapshot, a text that ends too early. */
+    /** No clauses and no state, but a snapshot of one clause. */
+    private static MiddleClaims kept() {
+        MiddleClaims x = new MiddleClaims();
+        x.add(1, 4, 8);
+        x.keep();
+        x.undo();
+        return x;
+    }
+
+    private static MiddleClaims kept(String clauses, String text) {
+        MiddleClaims x = kept();
+        Checks.type(x, clauses);
+        x.addAll();
+        x.clearText();
+        Checks.type(x, text);
+        return x;
+    }
+
+    /** Two clauses that clash, one state, a snapshot of one clause, a text that ends too early. */
     static MiddleClaims allNeeded() {
+        return kept("a/-a", "a,");
+    }
+
+    /** As allNeeded(), but without a snapshot. */
+    static MiddleClaims neverKept() {
         MiddleClaims x = Checks.with("a/-a");
         Checks.type(x, "a,");
         return x;
+    }
+
+    /** Clauses whose middle claims are true everywhere, one state, a snapshot of one clause, a text of two. */
+    static MiddleClaims trueClaims() {
+        return kept("f/a,-a", "b,-c");
+    }
+
+    /** As trueClaims(), but they do not clash. */
+    static MiddleClaims noClaims() {
+        return kept("ab/-a", "b,-c");
+    }
+
+    /** 24 clauses, but room for states and characters; a snapshot of one clause. */
+    static MiddleClaims noRoom() {
+        return kept("a,b,c,d,e,f,a,b,c,d,e,f/a,b,c,d,e,f,a,b,c,d,e,f", "e/f");
     }
 
     /** Three clauses that do not clash, one state, an empty snapshot, an empty text. */
@@ -94,11 +132,17 @@ final class Setups {
         return x;
     }
 
-    /** No clauses, but two states; no snapshot. */
+    /** No clauses, but two states; a snapshot of one clause. */
     static MiddleClaims emptied() {
+        MiddleClaims x = kept("a", "-");
+        x.remove(0);
+        return x;
+    }
+
+    /** No clauses, but two states; no snapshot. */
+    static MiddleClaims emptiedNeverKept() {
         MiddleClaims x = Checks.with("a");
         x.remove(0);
-        x.type('-');
         return x;
     }
 }
