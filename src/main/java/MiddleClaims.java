@@ -24,6 +24,9 @@ public final class MiddleClaims {
     private static final int MOST_CHARACTERS = 60;
     /** Each clause of a text takes a letter, and all but the last one a "," or a "/". */
     private static final int MOST_TEXT_CLAUSES = 30;
+    private static final int LAST_CHARACTER = 255;
+    /** No text of clauses has this one or one behind LAST_CHARACTER, so it stands for all of those. */
+    private static final char OTHER_CHARACTER = '?';
     private static final int NO_FAULT = -1;
     private static final int FAULT_BASE = -100;
 
@@ -755,7 +758,7 @@ public final class MiddleClaims {
             if (length < 0 || length >= characters.length) {
                 return false;
             }
-            characters[length] = character;
+            characters[length] = character <= LAST_CHARACTER ? character : OTHER_CHARACTER;
             length++;
             return true;
         }

@@ -10,16 +10,18 @@ import java.util.TreeSet;
 import java.util.regex.Matcher;
 import java.util.regex.Pattern;
 
-/** The class's face is the document's, and the source has nothing that LANGUAGE.md rules out. */
+/** The class's face is the document's: its constants and calls, and no other member that can be seen. */
 public final class FaceTest {
     private static final Path SOURCE = Path.of("src/main/java/MiddleClaims.java");
+    private static final Path DOCUMENT = Path.of("../shared/DOC.md");
     private static final Checks CHECKS = new Checks();
 
     public static void main(String[] args) throws IOException {
         constants();
         methods();
         privateMembers();
-        source();
+        asTheDocumentTells();
+        groups();
         CHECKS.end();
     }
 
@@ -95,17 +97,41 @@ public final class FaceTest {
         }
     }
 
-    private static void source() throws IOException {
-        String code = Files.readString(SOURCE)
-            .replaceAll("(?s)/\\*.*?\\*/", " ")
-            .replaceAll("//[^\n]*", " ");
-        String[] ruledOut = {
-            "\\b(throw|throws|try|catch|finally|synchronized|assert|package|native|volatile)\\b",
-            "->", "::", "[^\\x00-\\x7F]", "\\bObject\\b", "\\bhashCode\\b", "\\b\\w+Exact\\b"};
-        for (String each : ruledOut) {
-            Matcher found = Pattern.compile(each).matcher(code);
-            boolean isThere = found.find();
-            CHECKS.due("the source has " + each, isThere ? 1 : 0, 0);
+    /** Each member of the document's face stands in the source as it is told there, and no other public one. */
+    private static void asTheDocumentTells() throws IOException {
+        String document = Files.readString(DOCUMENT);
+        int start = document.indexOf("```java") + 7;
+        String face = document.substring(start, document.indexOf("```", start));
+        String source = Files.readString(SOURCE);
+        int members = 0;
+        for (String line : face.strip().split("\n")) {
+            String member = line.strip().replaceAll("\\);$", ") {");
+            if (!member.equals("}")) {
+                members++;
+                CHECKS.due("the source has: " + member, source.contains(member) ? 1 : 0, 1);
+            }
         }
+        CHECKS.due("public members", source.split("\\bpublic ", -1).length - 1, members);
+    }
+
+    /** "Ahead of the calls .. the interface says: ---- clauses", and so on. */
+    private static void groups() throws IOException {
+        String source = Files.readString(SOURCE);
+        Matcher told = Pattern.compile("Ahead of the calls (.*) the interface says: (---- .*)\\.")
+            .matcher(Files.readString(DOCUMENT));
+        int from = 0;
+        int groups = 0;
+        while (told.find()) {
+            int heading = source.indexOf("// " + told.group(2) + "\n", from);
+            CHECKS.due("the heading " + told.group(2), heading > from ? 1 : 0, 1);
+            from = heading;
+            for (String call : told.group(1).split(", ")) {
+                int at = source.indexOf("public int " + call.replace("`", "") + "(", from);
+                CHECKS.due(call + " behind what stands ahead of it", at > from ? 1 : 0, 1);
+                from = at;
+            }
+            groups++;
+        }
+        CHECKS.due("groups", groups, 4);
     }
 }
