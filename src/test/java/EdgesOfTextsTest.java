@@ -13,6 +13,7 @@ public final class EdgesOfTextsTest extends EdgeCases {
         test.faultsOfSigns();
         test.faultsOfSeparators();
         test.faultsOfOtherCharacters();
+        test.allCharacters();
         test.allShortTexts();
         test.everyPlaceOfTheLongest();
         test.roomFor24();
@@ -223,6 +224,33 @@ public final class EdgesOfTextsTest extends EdgeCases {
                 () -> typed("a,-" + character), MiddleClaims::addAll, -103);
             refused("TEXTS: the character of the number " + number + " is not allowed behind a \"/\"",
                 () -> typed("a/" + character), MiddleClaims::addAll, -102);
+        }
+    }
+
+    private void allCharacters() {
+        named("TEXTS: of all 65,536 characters only letters from a to f and \"-\" begin a text", () ->
+            dueForAllCharacters("", "abcdef", "-"));
+        named("TEXTS: of all 65,536 characters only letters that rise, \"-\", \",\" and \"/\" go on behind a c", () ->
+            dueForAllCharacters("c", "def", "-,/"));
+        named("TEXTS: of all 65,536 characters only letters that rise go on behind a c and a \"-\"", () ->
+            dueForAllCharacters("c-", "def", ""));
+        named("TEXTS: of all 65,536 characters only \",\" and \"/\" go on behind an f", () ->
+            dueForAllCharacters("f", "", ",/"));
+    }
+
+    /** Behind the beginning these may end a text of one clause, those need something more, no other may come. */
+    private void dueForAllCharacters(String beginning, String ends, String goesOn) {
+        MiddleClaims x = new MiddleClaims();
+        for (int number = 0; number <= 0xFFFF; number++) {
+            if (number % 60 == 0) {
+                x = new MiddleClaims();
+            }
+            Checks.type(x, beginning + (char) number);
+            int at = beginning.length();
+            int want = ends.indexOf(number) >= 0 ? 1 : goesOn.indexOf(number) >= 0 ? -101 - at : -100 - at;
+            due("addAll(), the character of the number " + number, x.addAll(), want);
+            due("clearText()", x.clearText(), at + 1);
+            due("undo()", x.undo(), want == 1 ? 0 : NONE);
         }
     }
 
