@@ -1,25 +1,15 @@
-import com.sun.source.tree.AssertTree;
-import com.sun.source.tree.BinaryTree;
+import static java.util.Map.entry;
+
 import com.sun.source.tree.BlockTree;
 import com.sun.source.tree.ClassTree;
 import com.sun.source.tree.CompilationUnitTree;
-import com.sun.source.tree.DoWhileLoopTree;
 import com.sun.source.tree.ForLoopTree;
-import com.sun.source.tree.ImportTree;
-import com.sun.source.tree.InstanceOfTree;
-import com.sun.source.tree.LambdaExpressionTree;
-import com.sun.source.tree.LiteralTree;
-import com.sun.source.tree.MemberReferenceTree;
 import com.sun.source.tree.MethodInvocationTree;
 import com.sun.source.tree.MethodTree;
 import com.sun.source.tree.NewArrayTree;
 import com.sun.source.tree.NewClassTree;
-import com.sun.source.tree.SynchronizedTree;
-import com.sun.source.tree.ThrowTree;
 import com.sun.source.tree.Tree;
-import com.sun.source.tree.TryTree;
 import com.sun.source.tree.VariableTree;
-import com.sun.source.tree.WhileLoopTree;
 import com.sun.source.util.JavacTask;
 import com.sun.source.util.SourcePositions;
 import com.sun.source.util.TreePathScanner;
@@ -28,7 +18,6 @@ import java.io.IOException;
 import java.nio.file.Path;
 import java.util.HashMap;
 import java.util.HashSet;
-import java.util.List;
 import java.util.Map;
 import java.util.Set;
 import java.util.TreeSet;
@@ -42,8 +31,8 @@ import javax.tools.ToolProvider;
 
 /**
  * The source keeps to LANGUAGE.md, as far as its form shows it. What the rules leave but this program
- * has no use for (texts, lists, division, recursion, objects made by a call) is ruled out here too, as
- * that is plainer to look at: whoever needs more of it widens the sets below, within the rules. That no
+ * has no use for (texts, lists, division, while, recursion, objects made by a call) is ruled out here
+ * too, as that is plainer to look at: whoever needs it changes the sets below, within the rules. That no
  * call throws or goes on for ever, for any arguments, is for the tests that make the calls.
  */
 public final class LanguageTest extends TreePathScanner<Void, Void> {
@@ -52,6 +41,14 @@ public final class LanguageTest extends TreePathScanner<Void, Void> {
         "char[]", "boolean[]", "Clauses", "Clauses[]", "History", "Text", "Proof");
     private static final Set<String> USED_STATIC_TYPES = Set.of("int", "long", "char", "boolean", "long[]");
     private static final Set<String> USED_LIBRARY = Set.of("Integer.bitCount", "Long.bitCount", "Math.max");
+    private static final Map<Tree.Kind, String> RULED_OUT = Map.ofEntries(
+        entry(Tree.Kind.LAMBDA_EXPRESSION, "rule 2"), entry(Tree.Kind.MEMBER_REFERENCE, "rule 2"),
+        entry(Tree.Kind.IMPORT, "rule 4"), entry(Tree.Kind.THROW, "rule 6"), entry(Tree.Kind.TRY, "rule 6"),
+        entry(Tree.Kind.SYNCHRONIZED, "rule 6"), entry(Tree.Kind.ASSERT, "rule 6"),
+        entry(Tree.Kind.INSTANCE_OF, "rule 6"), entry(Tree.Kind.DIVIDE, "rule 7"),
+        entry(Tree.Kind.REMAINDER, "rule 7"), entry(Tree.Kind.DIVIDE_ASSIGNMENT, "rule 7"),
+        entry(Tree.Kind.REMAINDER_ASSIGNMENT, "rule 7"), entry(Tree.Kind.WHILE_LOOP, "rule 9"),
+        entry(Tree.Kind.DO_WHILE_LOOP, "rule 9"), entry(Tree.Kind.STRING_LITERAL, "rule 10"));
     private static final Checks CHECKS = new Checks();
 
     private final CompilationUnitTree unit;
@@ -130,9 +127,11 @@ public final class LanguageTest extends TreePathScanner<Void, Void> {
     }
 
     @Override
-    public Void visitImport(ImportTree tree, Void none) {
-        none("rule 4: " + tree, true);
-        return super.visitImport(tree, none);
+    public Void scan(Tree tree, Void none) {
+        if (tree != null && RULED_OUT.containsKey(tree.getKind())) {
+            none(RULED_OUT.get(tree.getKind()) + ": " + tree, true);
+        }
+        return super.scan(tree, none);
     }
 
     @Override
@@ -224,83 +223,11 @@ public final class LanguageTest extends TreePathScanner<Void, Void> {
         return super.visitNewArray(tree, none);
     }
 
-    private void dueToEnd(Tree loop, Tree condition) {
-        String text = String.valueOf(condition);
-        none("rule 9: the end of " + loop, condition == null || text.equals("true") || text.equals("(true)"));
-    }
-
     @Override
     public Void visitForLoop(ForLoopTree tree, Void none) {
-        dueToEnd(tree, tree.getCondition());
+        String condition = String.valueOf(tree.getCondition());
+        none("rule 9: no end of " + tree, tree.getCondition() == null || condition.equals("true"));
         none("rule 9: no step in " + tree, tree.getUpdate().isEmpty());
         return super.visitForLoop(tree, none);
-    }
-
-    @Override
-    public Void visitWhileLoop(WhileLoopTree tree, Void none) {
-        dueToEnd(tree, tree.getCondition());
-        return super.visitWhileLoop(tree, none);
-    }
-
-    @Override
-    public Void visitDoWhileLoop(DoWhileLoopTree tree, Void none) {
-        dueToEnd(tree, tree.getCondition());
-        return super.visitDoWhileLoop(tree, none);
-    }
-
-    @Override
-    public Void visitBinary(BinaryTree tree, Void none) {
-        boolean isDivision = tree.getKind() == Tree.Kind.DIVIDE || tree.getKind() == Tree.Kind.REMAINDER;
-        none("rule 7: a divisor: " + tree, isDivision);
-        return super.visitBinary(tree, none);
-    }
-
-    @Override
-    public Void visitLiteral(LiteralTree tree, Void none) {
-        boolean isText = tree.getKind() == Tree.Kind.STRING_LITERAL;
-        none("rule 10: a text: " + tree, isText);
-        return super.visitLiteral(tree, none);
-    }
-
-    @Override
-    public Void visitLambdaExpression(LambdaExpressionTree tree, Void none) {
-        none("rule 2: " + tree, true);
-        return super.visitLambdaExpression(tree, none);
-    }
-
-    @Override
-    public Void visitMemberReference(MemberReferenceTree tree, Void none) {
-        none("rule 2: " + tree, true);
-        return super.visitMemberReference(tree, none);
-    }
-
-    @Override
-    public Void visitThrow(ThrowTree tree, Void none) {
-        none("rule 6: " + tree, true);
-        return super.visitThrow(tree, none);
-    }
-
-    @Override
-    public Void visitTry(TryTree tree, Void none) {
-        none("rule 6: " + tree, true);
-        return super.visitTry(tree, none);
-    }
-
-    @Override
-    public Void visitSynchronized(SynchronizedTree tree, Void none) {
-        none("rule 6: " + tree, true);
-        return super.visitSynchronized(tree, none);
-    }
-
-    @Override
-    public Void visitAssert(AssertTree tree, Void none) {
-        none("rule 6: " + tree, true);
-        return super.visitAssert(tree, none);
-    }
-
-    @Override
-    public Void visitInstanceOf(InstanceOfTree tree, Void none) {
-        none("rule 6: " + tree, true);
-        return super.visitInstanceOf(tree, none);
     }
 }
